@@ -54,6 +54,10 @@ public final class PromiseTest {
             row(0, 4, 13) = BAD; row(0, 4, MAX) = BAD; row(6, 4, -1) = BAD; row(0, 4, -1) = -17
             row(0, 12, MIN) = -17; kind(0) = 14; fault(2) = NONE
             """);
+        Calls.run("2 row: the last slot, filled", """
+            row(5, 4, 12) = 12; row(5, 12, 12) = 12; what(5, 11) = 11; what(5, 12) = -15; changed(5) = 0; count(5) = 0
+            change(5, 16, 11, 3) = 1; lay() = 0; changed(5) = 1; count(5) = 1; keep() = 0; between(0, 0) = 0; lose(5) = NOT
+            """);
         Calls.run("2 row: an applied patch keeps the slots that it writes and reads", """
             row(0, 4, 2) = 2; row(1, 4, 2) = 2; row(2, 4, 2) = 2; change(2, 4, 0, 1) = 1
             row(2, 4, 2) = 2; drop() = 0; change(0, 4, 0, 1) = 1; move(1, 0, 4, 0, 1) = 2; lay() = 0
@@ -382,6 +386,10 @@ public final class PromiseTest {
         Calls.on(desk, "19 lay", """
             lay() = NOT; change(0, 5, 0, 0) = 1; lay() = FULL; fault(0) = NONE; met(14, 4) = 0; undo() = 23
             lay() = FULL; count(0) = 24; count(1) = 23; count(2) = 1; hangs(0) = 0; text(23, NONE) = 6
+            redo() = 23; again(23) = NOT; keep() = 0; lift(0) = 0; get(0, 4, 0) = 0; order(23) = 0; order(24) = BAD
+            keep() = 1; between(0, 1) = 1; swap(23) = BAD; swap(22) = 0; get(0, 4, 0) = 23; without(23, 0, 0) = 0
+            go(0) = 24; order(23) = 23; with(23) = 1; again(23) = 24; count(7) = 23; prune() = 23; count(6) = 1
+            settle() = 24; lay() = -14; drop() = 0; change(0, 4, 0, 0) = 1; lay() = 0
             """);
     }
 
@@ -530,6 +538,10 @@ public final class PromiseTest {
             get(0, 4, 0) = 3; get(0, 4, 1) = 8; get(0, 4, 2) = 5; dead(0) = 0; trace(0, 0, 1) = 0; trace(0, 3, 0) = !2
             redo() = 1; dead(0) = 2; prune() = 1; text(0, NONE) = 11; prune() = 0; undo() = 1; get(0, 4, 2) = 0
             again(1) = 2; go(0) = 1; get(0, 4, 2) = 0
+            """);
+        Calls.run("31 prune: what has gone does not move any more", """
+            row(0, 4, 2) = 2; change(0, 4, 0, 1) = 1; change(0, 4, 1, 2) = 2; lay() = 0; change(0, 4, 1, 3) = 1; lay() = 1
+            dead(0) = 2; prune() = 1; swap(0) = 0; swap(0) = 0; lift(0) = 0; without(1, 0, 1) = 0; out(1) = 0
             """);
         Calls.run("31 prune: a patch without changes stays, removed patches stay as they are", """
             row(0, 4, 2) = 2; change(0, 4, 0, 1) = 1; lay() = 0; change(0, 4, 0, 2) = 1; change(0, 4, 0, 3) = 2; lay() = 1
