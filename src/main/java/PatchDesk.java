@@ -25,6 +25,8 @@ public final class PatchDesk {
 
     private static final int TALLY_ROWS = 18, TALLY_ANSWERS = 6;
 
+    private static final long LEAST_LONG = 1L << 63;
+
     private final Shelf shelf = new Shelf();
     private final Book book = new Book();
     private final Tape tape = new Tape();
@@ -584,7 +586,7 @@ public final class PatchDesk {
     }
 
     private static long longError(int error) {
-        return Long.MIN_VALUE - error;
+        return LEAST_LONG - error;
     }
 
     /** The error of naming this element, or 0. */
@@ -787,7 +789,7 @@ public final class PatchDesk {
 
     private static long doubleBits(long number) {
         long bits = magnitudeBits(number, 52, 1023);
-        return number < 0 ? bits | Long.MIN_VALUE : bits;
+        return number < 0 ? bits | LEAST_LONG : bits;
     }
 
     /** The library's functions for this are not allowed here; the number is 8 times the value. */

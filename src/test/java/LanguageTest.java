@@ -140,8 +140,7 @@ public final class LanguageTest {
         }
         Matcher calls = Pattern.compile("\\b(Math|Integer|Long|System|Arrays|String|Character|Byte|Short)\\.(\\w+)").matcher(code);
         while (calls.find()) {
-            boolean constant = calls.group(2).equals("MIN_VALUE");
-            due("rule 4: the library", constant || LIBRARY_CALLS.contains(calls.group()), calls.group());
+            due("rule 4: the library", LIBRARY_CALLS.contains(calls.group()), calls.group());
         }
         due("comments and code have no tabs and plain signs", source.chars().allMatch(c -> c == '\n' || c >= 32 && c < 127), "");
         checkLengths(source.split("\n"));
