@@ -85,7 +85,7 @@ final class Calls {
         }
     }
 
-    private static long value(String text) {
+    static long value(String text) {
         String word = text.trim();
         switch (word) {
             case "NONE": return PatchDesk.NONE;
